@@ -1072,6 +1072,9 @@ public final class EveryStreet {
         final State now;
         /** Least minutes behind one pass up to the end of another, by one step at least. */
         final int[] least = new int[PASSES * PASSES];
+        /** Of a pass those that can come next, at most one to each corner. */
+        final int[] nexts = new int[PASSES * CORNERS];
+        final int[] nextCounts = new int[PASSES];
         boolean stale = true;
         /** Of a pass, those (bits) from which it can be come to. */
         final long[] sources = new long[PASSES];
@@ -1128,9 +1131,7 @@ public final class EveryStreet {
             }
             int passes = 2 * town.streets;
             for (int p = 0; p < passes; p++) {
-                for (int q = 0; q < passes; q++) {
-                    least[p * PASSES + q] = stepMinutes(p, q);
-                }
+                listNexts(p, passes);
             }
             for (int by = 0; by < passes; by++) {
                 if (goes(by)) {
@@ -1138,6 +1139,19 @@ public final class EveryStreet {
                 }
             }
             stale = false;
+        }
+
+        void listNexts(int pass, int passes) {
+            int count = 0;
+            for (int next = 0; next < passes; next++) {
+                int step = stepMinutes(pass, next);
+                least[pass * PASSES + next] = step;
+                if (step < NEVER && count < CORNERS) {
+                    nexts[pass * CORNERS + count] = next;
+                    count++;
+                }
+            }
+            nextCounts[pass] = count;
         }
 
         void shorten(int by, int passes) {
@@ -2101,7 +2115,7 @@ public final class EveryStreet {
         int soonestEnd(int pass, int ready) {
             int begin = Math.max(ready, now.openFrom[pass >> 1]);
             int least = NEVER;
-            for (int hour = begin / HOUR; hour < HOURS; hour++) {
+            for (int hour = begin / HOUR; hour < HOURS && hour * HOUR < least; hour++) {
                 int start = Math.max(begin, hour * HOUR);
                 int end = endOf(pass, start);
                 if (start <= now.openTo[pass >> 1] && end <= DAY) {
@@ -2116,6 +2130,7 @@ public final class EveryStreet {
             if (all == 0) {
                 return minute;
             }
+            ways.refresh();
             Arrays.fill(table, 0, (all + 1) * CODES, NEVER);
             Arrays.fill(times, NEVER);
             for (int pass = 0; pass < 2 * town.streets; pass++) {
@@ -2176,11 +2191,10 @@ public final class EveryStreet {
         }
 
         void goOnFrom(int pass, int done) {
-            for (int next = 0; next < 2 * town.streets; next++) {
-                if (ways.stepMinutes(pass, next) < NEVER) {
-                    int turn = ways.turnBetween(pass, next);
-                    arrive(next, soonestEnd(next, times[pass] + turn), done);
-                }
+            for (int i = 0; i < ways.nextCounts[pass]; i++) {
+                int next = ways.nexts[pass * CORNERS + i];
+                int ready = times[pass] + ways.turnBetween(pass, next);
+                arrive(next, soonestEnd(next, ready), done);
             }
         }
 
