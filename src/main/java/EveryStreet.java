@@ -1360,7 +1360,8 @@ public final class EveryStreet {
             int last = came;
             int done = doneSoFar;
             int left = minutes;
-            while (left > 0) {
+            // each step takes a minute at least, so that the bound is never come to
+            for (int steps = 0; steps < NEVER && left > 0; steps++) {
                 int next = firstNext(corner, last, done, left);
                 if (next == NONE) {
                     return minutes;

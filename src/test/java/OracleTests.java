@@ -1045,6 +1045,81 @@ public final class OracleTests {
         return best;
     }
 
+    // ---- as many streets and services as can be
+
+    static EveryStreet fullTown(boolean loose) {
+        EveryStreet e = new EveryStreet();
+        for (int tries = 0; tries < 400; tries++) {
+            int a = tries < 12 ? tries : draw(12);
+            int b = tries < 12 ? (tries + 1) % 12 : draw(12);
+            String kind = new String[] {"", "!", "!$3", "=", ""}[draw(5)];
+            boolean oneWay = loose && draw(5) == 0 && !kind.equals("=");
+            tell(e, "" + (char) ('a' + a) + (oneWay ? '>' : '-') + (char) ('a' + b) + ":" + (1 + draw(6)) + kind);
+        }
+        for (int tries = 0; tries < 20; tries++) {
+            String at = "" + (char) ('a' + draw(12)) + (char) ('a' + draw(12)) + (char) ('a' + draw(12));
+            tell(e, tries % 3 == 0 ? "t" + at + ":" + draw(9) : "x" + at);
+        }
+        e.back(draw(5));
+        for (int i = draw(6); i > 0; i--) {
+            e.ahead(draw(10), draw(10));
+        }
+        return e;
+    }
+
+    static void fullSize() {
+        for (int round = 0; round < 12; round++) {
+            EveryStreet e = fullTown(round % 2 == 0);
+            same("streets", 18, e.count(0));
+            int from = draw(12);
+            int best = e.best(from, from);
+            List<Integer> walk = row(e);
+            if (round < 3) {
+                checkWalk(e, "full best", leastWalk(new Map(e), -1, from, 0, new Map(e).all(), from), best);
+            }
+            same("full some", best, e.some(from, (1 << e.count(1)) - 1));
+            same("full carts", best, e.carts(from, 1, 99, 0));
+            same("full soonest", best, e.soonest(from, 0));
+            same("full bars", best >= 0, e.bars(from) == -2);
+            same("full give", best >= 0, e.give(from) == 0);
+            e.go(from);
+            same("full rest", best, e.rest());
+            if (best >= 0 && walk.size() <= 60) {
+                for (int i = 1; i < walk.size(); i++) {
+                    e.go(walk.get(i));
+                }
+                same("full judge", 0, e.judge());
+                same("full judge row", List.of(best, (1 << e.count(1)) - 1), row(e));
+                same("full timed", best, e.timed(0));
+                same("full rest of all", 0, e.rest());
+                same("level below best", true, e.level() <= best && e.level() >= 0);
+                same("floor below best", true, e.floor() <= best);
+            }
+            fullCarts(e, from);
+        }
+    }
+
+    static void fullCarts(EveryStreet e, int from) {
+        Map m = new Map(e);
+        int[] tours = new int[m.all() + 1];
+        int cap = 8 + draw(8);
+        for (int set = 0; set <= m.all(); set++) {
+            int minutes = e.some(from, set);
+            int load = 0;
+            for (int i = 0; i < m.services; i++) {
+                load += (set >> i & 1) * m.load[i];
+            }
+            tours[set] = minutes < 0 || load > cap ? NEVER : minutes;
+        }
+        for (int what = 0; what < 2; what++) {
+            int due = divide(m, tours, 3, what == 1);
+            same("full carts of 3", due >= NEVER ? -2 : due, e.carts(from, 3, cap, what));
+            if (due < NEVER) {
+                same("full carts row", dividedRow, row(e));
+            }
+        }
+    }
+
     /** Without an argument always the same towns; with a number others. */
     public static void main(String[] args) {
         seed = args.length > 0 ? Long.parseLong(args[0]) : seed;
@@ -1054,6 +1129,7 @@ public final class OracleTests {
         levels();
         orders();
         sharing();
+        fullSize();
         System.out.println("OracleTests: " + checks + " checks, " + faults + " faults");
         if (faults > 0) {
             System.exit(1);

@@ -148,6 +148,8 @@ public final class PromiseTests {
         is(7, e.turn(0, 1, 2));
         is(-3, tell("b-a:1"));
         is(-9, tell("e-f:1;f>e:1"));
+        is(-9, tell("e-f:1;e-f:1"));
+        is(-8, tell("e-f:1!$"));
         is(-9, tell("e-f:1;e-e:1"));
         is(-6, tell("e>f:1/2"));
         is(-6, tell("e>f:1="));
@@ -341,6 +343,11 @@ public final class PromiseTests {
         rowIs(0, 1, 2, 3, 0);
         is(8, e.best(2, 2));
         rowIs(2, 1, 0, 1, 2, 3, 0, 1, 2);
+        start("10 ahead, by the first one");
+        tell("a-b:1!;b-c:1!;c-d:1!");
+        yes(e.ahead(2, 0));
+        yes(e.ahead(0, 1));
+        no(e.ahead(1, 2));
     }
 
     static void p11() {
@@ -635,6 +642,16 @@ public final class PromiseTests {
         is(2, e.bars(0));
         e.shut(2, true);
         is(-1, e.bars(0));
+        start("23 bars, a far first street");
+        tell("a>b:1!;b-c:1;c-d:1;d-a:1");
+        is(-2, e.bars(2));
+        start("23 bars, ahead among three");
+        tell("a>b:1!;b>c:1!;c>a:1!;xcab");
+        is(-2, e.bars(0));
+        yes(e.ahead(2, 1));
+        is(0, e.bars(0));
+        is(0, e.bars(2));
+        is(-1, e.bars(3));
     }
 
     static void p24() {
@@ -824,6 +841,9 @@ public final class PromiseTests {
         is(300 + 2300, e.busy(1, 1, 65536 + 300, 0));
         is(400 + 1 + 2200, e.busy(2, 2, Integer.MAX_VALUE, 1));
         is(127 + 1 + 2200, e.busy(0, 2, 127, 1));
+        e.busy(2, 24, 100, 10);
+        is(1380 + 33, e.timed(1380));
+        is(1379 + 32, e.timed(1379));
     }
 
     static void p31() {
@@ -869,6 +889,12 @@ public final class PromiseTests {
         is(81, e.soonest(2, 0));
         e.shut(1, true);
         is(-2, e.soonest(2, 0));
+        start("32 soonest, open for one minute");
+        tell("a>b:5!;b>c:1;c>a:1");
+        e.open(0, 70, 70);
+        is(77, e.soonest(0, 0));
+        is(77, e.soonest(0, 70));
+        is(-2, e.soonest(0, 71));
     }
 
     static void p33() {
@@ -1014,6 +1040,9 @@ public final class PromiseTests {
         is(-1, e.carts(0, 1, 1, 2));
         is(-1, e.carts(0, 1, 1, -1));
         rowIs(1, 2, 4, 8);
+        is(11, e.parts(1));
+        is(14, e.carts(0, 2, 99, 0));
+        rowIs(0, 15);
         start("38 carts, ahead within a cart alone");
         tell("a-b:1!;a-c:1!;b-c:9");
         e.ahead(0, 1);
