@@ -29,17 +29,18 @@ public final class RefusalTests {
 
     static String drawText() {
         StringBuilder text = new StringBuilder();
-        int items = 1 + draw(9);
+        int items = 1 + draw(draw(3) == 0 ? 9 : 3);
         for (int i = 0; i < items; i++) {
             text.append(i == 0 ? "" : ";");
             char a = (char) ('a' + draw(8));
-            char b = (char) ('a' + draw(8));
+            char b = (char) ('a' + (a - 'a' + 1 + draw(draw(20) == 0 ? 8 : 7)) % 8);
+            char c = (char) ('a' + (b - 'a' + 1 + draw(7)) % 8);
             switch (draw(5)) {
                 case 0:
-                    text.append('t').append(a).append(b).append((char) ('a' + draw(8))).append(':').append(draw(40));
+                    text.append('t').append(a).append(b).append(c).append(':').append(draw(40));
                     break;
                 case 1:
-                    text.append('x').append(a).append(b).append((char) ('a' + draw(8)));
+                    text.append('x').append(a).append(b).append(c);
                     break;
                 default:
                     text.append(a).append(draw(3) == 0 ? '>' : '-').append(b).append(':').append(1 + draw(30));
@@ -157,7 +158,7 @@ public final class RefusalTests {
         StringBuilder answers = new StringBuilder();
         int calls = 60;
         for (int i = 0; i < calls; i++) {
-            if (draw(14) == 0 || i == 0) {
+            if (draw(14) == 0 || i < 4) {
                 answers.append('T').append(tell(e, drawText())).append(' ');
                 continue;
             }
@@ -183,6 +184,47 @@ public final class RefusalTests {
         return answers.toString();
     }
 
+    /** Calls that tell the ROW at most. */
+    static boolean isQuestion(int which) {
+        return which >= 5 && which <= 8 || which >= 11 && which <= 15 || which >= 18 && which <= 20
+                || which == 23 || which == 25 || which == 28 || which == 29 || which == 31 || which >= 34;
+    }
+
+    static String answersAtEnd(EveryStreet e) {
+        StringBuilder all = new StringBuilder();
+        int[] answers = {e.order(), e.rest(), e.best(1, 2), e.some(0, 0), e.give(1), e.bars(2), e.level(),
+            e.soonest(0, 9), e.timed(0), e.carts(1, 2, 20, 1), e.card(), e.judge(), e.build(), e.better()};
+        for (int answer : answers) {
+            all.append(answer).append(' ');
+        }
+        return all.toString();
+    }
+
+    /** The same calls with and without questions between: the same answers at the end. */
+    static void askOrNot(long from) {
+        String[] ends = new String[2];
+        for (int round = 0; round < 2; round++) {
+            EveryStreet e = new EveryStreet();
+            for (int i = 0; i < 60; i++) {
+                seed = from + 1000003L * i;
+                draw(2);
+                if (draw(20) == 0 || i < 5) {
+                    tell(e, drawText());
+                    continue;
+                }
+                int which = draw(41);
+                if (round == 0 || !isQuestion(which)) {
+                    call(e, which);
+                }
+            }
+            ends[round] = answersAtEnd(e);
+        }
+        checks++;
+        if (!ends[0].equals(ends[1])) {
+            fault("questions between change answers, run " + from + ": " + ends[0] + "and " + ends[1]);
+        }
+    }
+
     public static void main(String[] args) {
         int runs = args.length > 0 ? Integer.parseInt(args[0]) : 1500;
         for (int i = 1; i <= runs; i++) {
@@ -190,6 +232,7 @@ public final class RefusalTests {
             if (!once.equals(run(i * 7919L, false))) {
                 fault("run " + i + " answers otherwise when nothing is asked between");
             }
+            askOrNot(i * 104729L);
         }
         System.out.println("RefusalTests: " + checks + " checks, " + faults + " faults");
         if (faults > 0) {
