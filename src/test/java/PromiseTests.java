@@ -1256,6 +1256,71 @@ public final class PromiseTests {
         is(1, e.count(6));
     }
 
+    /** As many streets, services, cuts and corners as there can be. */
+    static void pFull() {
+        start("all full");
+        is(8, tell("a-b:1!;b-c:1!;c-d:1!;d-e:1!;e-f:1!;f-g:1!;g-h:1!;h-i:1!"));
+        is(8, tell("i-j:1!;j-a:1!;a-c:9;a-d:9;a-e:9;a-f:9;a-g:9;a-h:9"));
+        is(2, tell("a-i:9;k-l:9"));
+        is(-100, tell("l-a:1"));
+        is(10, e.line());
+        rowIs(0, 1, 2, 3, 4, 5, 6, 7, 8, 9, 0);
+        is(10, e.best(0, 0));
+        rowIs(0, 1, 2, 3, 4, 5, 6, 7, 8, 9, 0);
+        is(10, e.level());
+        rowIs(0, 0, 0, 0, 0, 0, 0, 0, 0, 0);
+        is(0, e.pair());
+        is(10, e.floor());
+        is(0, e.cut(1));
+        is(9, e.far(11, 10));
+        is(10, e.soonest(0, 0));
+        is(0, e.give(0));
+        is(-2, e.bars(9));
+        is(10, e.build());
+        is(9, e.pass(0, 0));
+        is(8, e.pass(9, 0));
+        is(0, e.better());
+        is(3, e.parts(4));
+        rowIs(1, 14, 112, 896);
+        is(20, e.carts(0, 2, 5, 0));
+        rowIs(31, 992);
+        is(10, e.carts(0, 2, 5, 1));
+        rowIs(31, 992);
+        for (int i = 1; i <= 12; i++) {
+            is(i, e.prove(1024, 1));
+        }
+        is(-2 - 17, e.worth());
+        pFullHand();
+    }
+
+    static void pFullHand() {
+        for (int i = 1; i <= 60; i++) {
+            is(i, e.go(i % 2 == 1 ? 0 : 1));
+        }
+        is(0, e.judge());
+        rowIs(59, 1);
+        is(9, e.rest());
+        rowIs(1, 2, 3, 4, 5, 6, 7, 8, 9, 0);
+        is(59, e.timed(0));
+        is(59, e.count(6));
+        is(2, e.card());
+        is(1, e.mislead(0));
+        is(2, e.mislead(1));
+        yes(e.keep(2));
+        yes(e.undo(0));
+        yes(e.again(2));
+        is(60, e.count(3));
+        is(10, e.count(4));
+        is(12, e.count(10));
+        for (int i = 0; i < 18; i++) {
+            yes(e.shut(i, true));
+        }
+        is(18, e.count(9));
+        is(-2, e.best(0, 0));
+        is(10, e.give(0));
+        rowIs(1023);
+    }
+
     static boolean noRow(int i) {
         try {
             e.row(i);
@@ -1312,6 +1377,7 @@ public final class PromiseTests {
         p44();
         p45();
         p46();
+        pFull();
         System.out.println("PromiseTests: " + checks + " checks, " + faults + " faults");
         if (faults > 0) {
             System.exit(1);
