@@ -1095,6 +1095,7 @@ public final class OracleTests {
                 same("level below best", true, e.level() <= best && e.level() >= 0);
                 same("floor below best", true, e.floor() <= best);
             }
+            cuts(e, new Map(e), e.count(8));
             fullCarts(e, from);
         }
     }
