@@ -1838,7 +1838,7 @@ public final class EveryStreet {
         }
 
         /** Tries both directions of the service in turn; the depth is at most the services' number. */
-        void choose(int depth, int minutes) {
+        private void choose(int depth, int minutes) {
             if (minutes >= least) {
                 return;
             }
