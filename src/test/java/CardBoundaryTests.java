@@ -78,19 +78,35 @@ public final class CardBoundaryTests extends Bounds {
         is(1, e.mislead(0));
     }
 
+    static final String[] LONGEST_CARD = {"a-b:1;b-c:1;c-d:1;d-e:1;e-f:1;f-g:1;g-h:1;h-i:1",
+        "i-j:1;j-k:1;k-l:1;a-l:1;a-c:1;a-d:1;a-e:1;a-f:1", "a-g:1;a-h:1"};
+
+    static boolean[][] streetsOfLongestCard() {
+        boolean[][] streets = new boolean[12][12];
+        for (String text : LONGEST_CARD) {
+            for (String item : text.split(";")) {
+                int a = item.charAt(0) - 'a';
+                int b = item.charAt(2) - 'a';
+                streets[a][b] = true;
+                streets[b][a] = true;
+            }
+        }
+        return streets;
+    }
+
     /** A round that goes each street once each way: of each pass in turn the next that was not gone. */
     static List<Integer> roundOfAllPasses() {
         List<Integer> stack = new ArrayList<>(List.of(0));
         List<Integer> round = new ArrayList<>();
-        boolean[][] gone = new boolean[12][12];
+        boolean[][] left = streetsOfLongestCard();
         while (!stack.isEmpty()) {
             int at = stack.get(stack.size() - 1);
             int to = 0;
-            while (to < 12 && (e.between(at, to) < 0 || gone[at][to])) {
+            while (to < 12 && !left[at][to]) {
                 to++;
             }
             if (to < 12) {
-                gone[at][to] = true;
+                left[at][to] = false;
                 stack.add(to);
             } else {
                 round.add(stack.remove(stack.size() - 1));
@@ -101,18 +117,13 @@ public final class CardBoundaryTests extends Bounds {
 
     static void longestCard() {
         start("41: a WORD for each of 36 PASSES");
-        is(8, tell("a-b:1;b-c:1;c-d:1;d-e:1;e-f:1;f-g:1;g-h:1;h-i:1"));
-        is(8, tell("i-j:1;j-k:1;k-l:1;a-l:1;a-c:1;a-d:1;a-e:1;a-f:1"));
-        is(2, tell("a-g:1;a-h:1"));
+        for (String text : LONGEST_CARD) {
+            tell(text);
+        }
+        is(18, e.count(0));
         List<Integer> round = roundOfAllPasses();
         is(37, round.size());
         round.add(round.get(1));
-        EveryStreet asked = e;
-        e = new EveryStreet();
-        tell("a-b:1;b-c:1;c-d:1;d-e:1;e-f:1;f-g:1;g-h:1;h-i:1");
-        tell("i-j:1;j-k:1;k-l:1;a-l:1;a-c:1;a-d:1;a-e:1;a-f:1");
-        tell("a-g:1;a-h:1");
-        is(asked.count(0), e.count(0));
         for (int i = 0; i < 38; i++) {
             is(i + 1, e.go(round.get(i)));
         }
@@ -254,6 +265,78 @@ public final class CardBoundaryTests extends Bounds {
         }
     }
 
+    static void keptHands() {
+        start("44: THE HAND's PASSES are as they were");
+        tell("a-b:1/2!;b-c:10;c-a:30");
+        hand("abc");
+        yes(e.keep(0));
+        hand("cba");
+        yes(e.keep(1));
+        hand("acb");
+        yes(e.again(0));
+        is(0, e.judge());
+        rowIs(11, 1);
+        is(11, e.timed(0));
+        is(12, e.rest());
+        yes(e.again(1));
+        is(0, e.judge());
+        rowIs(12, 1);
+        yes(e.again(0));
+        is(0, e.judge());
+        rowIs(11, 1);
+        yes(e.undo(2));
+        is(3, e.go(0));
+        is(0, e.judge());
+        rowIs(3, 1);
+    }
+
+    static void keptProofs() {
+        start("44: all 12 CUTS of THE PROOF are as they were");
+        tell("a-b:99!");
+        for (int i = 1; i <= 12; i++) {
+            is(i, e.prove(i == 12 ? 2 : 1, i));
+        }
+        is(78, e.worth());
+        yes(e.keep(1));
+        is(12, e.drop());
+        for (int i = 1; i <= 12; i++) {
+            is(i, e.prove(3, 99));
+        }
+        is(0, e.worth());
+        yes(e.again(1));
+        is(78, e.worth());
+        is(12, e.drop());
+    }
+
+    static void keptToTheLast() {
+        start("44: the last STREET, CORNERS and hour are as they were");
+        tell("a-b:1!;b-c:1!;c-d:1!;d-e:1!;e-f:1!;f-g:1!;g-h:1!;h-i:1!");
+        tell("i-j:1!;j-a:1!;a-c:9;a-d:9;a-e:9;a-f:9;a-g:9;a-h:9");
+        is(2, tell("j-l:9;l-k:9"));
+        handOf(60, "ac");
+        is(32 * 24 + 3 * 276, e.busy(2, 24, 32, 3));
+        yes(e.open(17, 1380, 1380));
+        yes(e.straight(9, 11, 10));
+        yes(e.straight(10, 11, 9));
+        yes(e.keep(0));
+        hand("lkl");
+        is(-3, e.busy(3, 0, 0, 0));
+        yes(e.open(17, 0, 1439));
+        yes(e.straight(9, 11, -1));
+        yes(e.straight(10, 11, -1));
+        yes(e.again(0));
+        is(0, e.judge());
+        rowIs(531, 0);
+        hand("lk");
+        is(1380 + 10, e.timed(0));
+        rowIs(1380);
+        is(-2, e.timed(1381));
+        hand("jlk");
+        is(0, e.card());
+        hand("klj");
+        is(0, e.card());
+    }
+
     static void keptOnlyTillTold() {
         start("44: refused after a town(), till it is kept anew");
         tell("a-b:1");
@@ -365,6 +448,9 @@ public final class CardBoundaryTests extends Bounds {
         keepNumbers();
         keptEmpty();
         keptFull();
+        keptHands();
+        keptProofs();
+        keptToTheLast();
         keptOnlyTillTold();
         keepsNoRowAndNoText();
         countBounds();

@@ -273,6 +273,24 @@ public final class LineBoundaryTests extends Bounds {
         rowIs(1, 1, 0);
     }
 
+    static void firstRowsOfLevel() {
+        String[] towns = {"a-b:1!;c-b:1!;a-c:1!", "a-b:1!;d-e:1=;c-b:1!;a-c:1!", "d-e:1=;a-b:1!;c-b:1!;a-c:1!",
+            "a-b:1!;c-b:1!;d-e:1=;a-c:1!", "a-b:1!;c-b:1!;a-c:1!;d-e:1=",
+            "a-b:1!;c-b:1!;d>e:1!;e>f:1!;f>d:1;a-c:1!"};
+        int[][] rows = {{0, 1, 1}, {0, 0, 1, 1, 1}, {0, 1, 0, 1, 1}, {0, 1, 0, 1, 1}, {0, 1, 1, 0, 1},
+            {0, 1, 0, 0, 1}};
+        for (int i = 0; i < towns.length; i++) {
+            start("20: of equal ones the first row, " + towns[i]);
+            tell(towns[i]);
+            is(i == 0 ? 3 : i == 5 ? 6 : 5, e.level());
+            rowIs(rows[i]);
+        }
+        start("20: of equal ones the first row, two rings");
+        tell("a-b:1!;c-b:1!;a-c:1!;d-e:1!;f-e:1!;d-f:1!");
+        is(6, e.level());
+        rowIs(0, 1, 1, 0, 1, 1);
+    }
+
     static void noLevel() {
         start("20: -2, if it can't be: the ROW stays");
         full();
@@ -307,6 +325,7 @@ public final class LineBoundaryTests extends Bounds {
         worthBounds();
         dropBounds();
         levelBounds();
+        firstRowsOfLevel();
         noLevel();
         finish("LineBoundaryTests");
     }

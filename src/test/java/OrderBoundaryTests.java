@@ -242,6 +242,15 @@ public final class OrderBoundaryTests extends Bounds {
         is(-2, e.carts(0, 3, 1, 0));
     }
 
+    static void cartsInTheFirstRow() {
+        start("38: of as few MINUTES the first row, of three carts");
+        tell("a-b:9!$9;a-c:2!$5;c-d:2!$4;d-a:2;a-e:5!$4");
+        is(18 + 6 + 10, e.carts(0, 3, 9, 0));
+        rowIs(1, 6, 8);
+        is(18, e.carts(0, 3, 9, 1));
+        rowIs(1, 2, 12);
+    }
+
     static void cartsThatCannotBe() {
         start("38: -2, if a SERVICE can't be done from there: the ROW stays");
         full();
@@ -307,6 +316,7 @@ public final class OrderBoundaryTests extends Bounds {
         cartsRefused();
         cartsWithoutServices();
         cartsByLoad();
+        cartsInTheFirstRow();
         cartsThatCannotBe();
         partsBounds();
         partsThatHangTogether();

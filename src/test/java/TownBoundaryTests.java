@@ -93,10 +93,10 @@ public final class TownBoundaryTests extends Bounds {
     }
 
     static void turnsAreToldFarthest() {
-        start("8: TURNS not told: 0, BACK if back; those told back stay");
-        tell("taba:7;xbab");
-        e.back(99);
         for (int a = 0; a < 12; a++) {
+            start("8: TURNS not told: 0, BACK if back; those told back stay");
+            tell("taba:7;xbab");
+            e.back(99);
             for (int b = 0; b < 12; b++) {
                 for (int c = 0; c < 12; c++) {
                     boolean told = a + b == 1 && a == c;

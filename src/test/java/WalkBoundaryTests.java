@@ -126,6 +126,61 @@ public final class WalkBoundaryTests extends Bounds {
         is(1, e.bars(0));
     }
 
+    static void barsWithTenServices() {
+        start("23: ten SERVICES, the last one AHEAD of all others");
+        longRing();
+        for (int a = 0; a < 12; a++) {
+            is(-2, e.bars(a));
+        }
+        tell("xlab");
+        is(0, e.bars(11));
+        is(0, e.bars(1));
+        is(-2, e.best(0, 0));
+    }
+
+    static void doneByPassesAhead() {
+        start("21: AHEAD: done by PASSES ahead of this one, also on one STREET");
+        tell("a-b:1=");
+        is(2, e.best(0, 0));
+        yes(e.ahead(1, 0));
+        is(4, e.best(0, 0));
+        rowIs(0, 1, 0, 1, 0);
+        is(2, e.best(1, 1));
+        is(4, e.some(0, 3));
+        is(2, e.some(0, 1));
+        is(0, e.give(0));
+        hand("aba");
+        is(0, e.judge());
+        rowIs(2, 2);
+        is(2, e.rest());
+        rowIs(0, 1, 0);
+    }
+
+    /** Each change between is seen by the next answer. */
+    static void walksAreAskedAnew() {
+        start("21: what BACK, SHUT, again() and town() change is seen at once");
+        tell("a-b:2!;b-c:3;c-a:4;c-d:1!");
+        is(2 + 3 + 1 + 1 + 4, e.best(0, 0));
+        yes(e.keep(0));
+        is(0, e.back(99));
+        is(2 + 3 + 1 + 99 + 1 + 4, e.best(0, 0));
+        is(99 + 11, e.soonest(0, 0));
+        yes(e.shut(1, true));
+        is(2 + 99 + 2 + 4 + 1 + 99 + 1 + 4, e.best(0, 0));
+        yes(e.shut(2, true));
+        is(-2, e.best(0, 0));
+        is(2 + 2 + 1 + 1, e.level());
+        yes(e.again(0));
+        is(11, e.best(0, 0));
+        is(1, tell("xcdc"));
+        is(-2, e.best(0, 0));
+        is(3, e.bars(2));
+        is(1, tell("tcdc:50"));
+        is(61, e.best(0, 0));
+        is(1, tell("d-a:20"));
+        is(2 + 3 + 1 + 20, e.best(0, 0));
+    }
+
     static void giveBounds() {
         start("24: none given up: 0, the ROW: 0");
         for (int a = 0; a < 12; a++) {
@@ -163,7 +218,7 @@ public final class WalkBoundaryTests extends Bounds {
     static void fiveHundredTwelveCalls() {
         start("an object is used for at most 512 calls: the last answers as the first");
         full();
-        calls = 3 * 14 + 6;
+        calls = 16 + 15 + 5;
         while (calls <= 500) {
             due(10, e.best(0, 0));
             due(10, e.level());
@@ -189,6 +244,9 @@ public final class WalkBoundaryTests extends Bounds {
         firstRowOfEqualOnes();
         someBounds();
         barsBounds();
+        barsWithTenServices();
+        doneByPassesAhead();
+        walksAreAskedAnew();
         giveBounds();
         fiveHundredTwelveCalls();
         finish("WalkBoundaryTests");
